@@ -347,6 +347,14 @@ public final class RadiusDecoder {
             return powers[e >= 0 ? e : e + size - 1];
         }
 
+        /** Adds factor times the other row to a row; most of the time goes here, so no call per element. */
+        void addMultiple(int[] row, int factor, int[] other, int from, int to) {
+            int line = factor << MOST_DEGREE;
+            for (int t = from; t < to; t++) {
+                row[t] ^= products[line | other[t]];
+            }
+        }
+
         int power(int a, int e) {
             int result = 1;
             for (int i = 0; i < e; i++) {
@@ -454,16 +462,9 @@ public final class RadiusDecoder {
                 }
                 for (int r = 0; r < dimension; r++) {
                     if (r != i) {
-                        clearBy(rows[r], rows[i], from + i);
+                        numbers.addMultiple(rows[r], rows[r][from + i], rows[i], 0, width);
                     }
                 }
-            }
-        }
-
-        private void clearBy(int[] row, int[] unit, int place) {
-            int factor = row[place];
-            for (int p = 0; p < length + dimension; p++) {
-                row[p] ^= numbers.product(factor, unit[p]);
             }
         }
 
@@ -680,12 +681,14 @@ public final class RadiusDecoder {
             if (least < 0) {
                 return;
             }
+            int[] failing = values[least];
             for (int j = 0; j < powers; j++) {
                 if (j != least && values[j][c] != 0) {
-                    clearBy(values[j], values[least], c);
+                    int factor = numbers.quotient(values[j][c], failing[c]);
+                    numbers.addMultiple(values[j], factor, failing, c, places * block);
                 }
             }
-            timesLinear(values[least], o);
+            timesLinear(failing, o);
             weights[least]++;
         }
 
@@ -698,13 +701,6 @@ public final class RadiusDecoder {
                 }
             }
             return least;
-        }
-
-        private void clearBy(int[] row, int[] other, int c) {
-            int factor = numbers.quotient(row[c], other[c]);
-            for (int t = c; t < places * block; t++) {
-                row[t] ^= numbers.product(factor, other[t]);
-            }
         }
 
         /** Conditions met stay met: at place o each value becomes the one before it, with a lesser u. */

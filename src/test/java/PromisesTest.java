@@ -493,7 +493,7 @@ public final class PromisesTest {
         for (int i = 0; i < none.length; i++) {
             due("none wrong: locator(" + i + ")", x.locator(i), none[i]);
         }
-        receiveAll(x, 0, 1, 0, 0, 0, 0, 6);
+        receiveAll(x, 0, 1, 0, 5, 0, 0, 6);
         eraseAll(x, 3);
         due("decode(true)", x.decode(true), 2);
         // (1 - 2 y) (1 - 5 y), without the erased place
@@ -548,6 +548,12 @@ public final class PromisesTest {
         due("two places left: distance(0)", x.distance(0), 0);
         due("two places left: listed(0, 2)", x.listed(0, 2), 0);
         due("two places left: listed(0, 5)", x.listed(0, 5), 5);
+        x = made(11, 0, 7, 4);
+        receiveAll(x, 0, 0, 0, 6, 3, 6, 0);
+        due("k 4: list(2)", x.list(2), 3);
+        listedIs("k 4", x, 0, 0, 0, 0, 6, 5, 6, 7);
+        listedIs("k 4", x, 1, 0, 0, 3, 7, 3, 6, 0);
+        listedIs("k 4", x, 2, 0, 5, 0, 6, 3, 4, 0);
     }
 
     private static void listStays() {
