@@ -80,6 +80,7 @@ public final class EdgesTest {
         polynomialsEnd();
         fieldBeginsAnew();
         codeBeginsAnew();
+        longerCodeBehindShorter();
     }
 
     private static void messageAndCodeword() {
@@ -94,6 +95,7 @@ public final class EdgesTest {
         erasedIsRefusedAgain();
         wordIsErased();
         eachCode(EdgesTest::syndromesEnd);
+        eachCode(EdgesTest::syndromeOfOnePlace);
         syndromeOfNothing();
     }
 
@@ -147,7 +149,7 @@ public final class EdgesTest {
         due(call, got ? 1 : 0, want ? 1 : 0);
     }
 
-    /** BAD at the first numbers beyond first and last, and at the ends of int; not BAD from first to last. */
+    /** BAD at the first numbers beyond first and last, and at the ends of int; not at first and last. */
     private static void badBeyond(String call, IntUnaryOperator asked, int first, int last) {
         due(call + " at " + first + " is BAD", asked.applyAsInt(first) == BAD, false);
         due(call + " at " + last + " is BAD", asked.applyAsInt(last) == BAD, false);
@@ -215,14 +217,6 @@ public final class EdgesTest {
         }
     }
 
-    private static int[] wordOf(RadiusDecoder x, int n) {
-        int[] elements = new int[n];
-        for (int i = 0; i < n; i++) {
-            elements[i] = x.word(i);
-        }
-        return elements;
-    }
-
     private static void allAre(String what, IntUnaryOperator asked, int count, int want) {
         for (int i = 0; i < count; i++) {
             due(what + " at " + i, asked.applyAsInt(i), want);
@@ -276,7 +270,9 @@ public final class EdgesTest {
     /** Something is decoded, something listed and something erased, in a code of kind 1, n 7, k 3. */
     private static RadiusDecoder busy() {
         RadiusDecoder x = made(13, 1, 7, 3);
-        due("busy: tell(0, 5)", x.tell(0, 5), true);
+        for (int i = 0; i < 3; i++) {
+            due("busy: tell(" + i + ", 5)", x.tell(i, 5), true);
+        }
         due("busy: encode(true)", x.encode(true) > 0, true);
         due("busy: receive(0, ..)", x.receive(0, x.word(0) ^ 1), true);
         due("busy: decode(true)", x.decode(true), 1);
@@ -721,6 +717,21 @@ public final class EdgesTest {
         due("behind the same code: encode(true)", x.encode(true), 0);
     }
 
+    /** "message and word are all 0, nothing is erased": also what a shorter code between had no room for */
+    private static void longerCodeBehindShorter() {
+        RadiusDecoder x = made(11, 0, 7, 4);
+        for (int i = 0; i < 4; i++) {
+            due("longer: tell(" + i + ", 7)", x.tell(i, 7), true);
+        }
+        receiveAll(x, 1, 2, 3, 4, 5, 6, 7);
+        due("longer: erase(5)", x.erase(5), true);
+        due("longer: erase(6)", x.erase(6), true);
+        due("code(0, 3, 2)", x.code(0, 3, 2), true);
+        beginsAnew("shorter", x, 3, 2);
+        due("code(0, 7, 4)", x.code(0, 7, 4), true);
+        beginsAnew("longer again", x, 7, 4);
+    }
+
     // Promises 7 and 8.
 
     /** "when i is not 0 .. k - 1", of tell and sent */
@@ -831,6 +842,23 @@ public final class EdgesTest {
     private static void syndromesEnd(int p, int kind, int n, int k) {
         RadiusDecoder x = made(p, kind, n, k);
         badBeyond(named(p, kind, n, k) + "syndrome(j)", j -> x.syndrome(j), 0, n - k - 1);
+    }
+
+    /** "h(i) times the word's element times a(i)^j": of the first place and the last, with the first and last j */
+    private static void syndromeOfOnePlace(int p, int kind, int n, int k) {
+        String where = named(p, kind, n, k);
+        int[] factors = codewordWithoutZero(p, 1, n);
+        for (int i : new int[] {0, n - 1}) {
+            RadiusDecoder x = made(p, kind, n, k);
+            int last = size(p) - 1;
+            due(where + "receive", x.receive(i, last), true);
+            // 1 / b(i) is a(i) times the factor t(i) of kind 1
+            int h = kind == 0 ? product(p, point(p, i), factors[i]) : point(p, i);
+            for (int j : new int[] {0, n - k - 1}) {
+                int want = product(p, product(p, h, last), point(p, i * j));
+                due(where + "only " + i + ": syndrome(" + j + ")", x.syndrome(j), want);
+            }
+        }
     }
 
     /** "over all places i that are not erased": of one place left, and of none */
